@@ -450,9 +450,7 @@ public final class RetiredCells {
         int startAnew() {
             startsSoFar++;
             for (int page = 0; page < PAGES; page++) {
-                if (hasCell(page)) {
-                    release(page);
-                }
+                release(page);
             }
             for (int cell = 0; cell < CELLS; cell++) {
                 errors[cell] = 0;
@@ -490,7 +488,7 @@ public final class RetiredCells {
 
         /**
          * The cell that is given next, or NONE. Bad ones are passed over: behind an act no free
-         * cell is bad, and a page that is moved while others wait for it must not get one.
+         * cell is bad, but while retireWhatCan() looks, one may be, and a moved page must not get it.
          */
         int cellToGive() {
             boolean byErrors = settings[GIVE_BY] == BY_FEWEST_ERRORS;
@@ -512,7 +510,11 @@ public final class RetiredCells {
         }
 
         private void release(int page) {
-            owner[cellOf[page]] = NONE;
+            int cell = cellOf[page];
+            if (cell < 0) {
+                return;
+            }
+            owner[cell] = NONE;
             cellOf[page] = NONE;
             pinned[page] = false;
         }

@@ -29,6 +29,7 @@ public final class PromisesTest {
         promise12Act();
         promise13Stopped();
         promise14Undo();
+        promise14EachAct();
         promise14WhatRecords();
         promise15Keep();
         promise16Restore();
@@ -461,10 +462,10 @@ public final class PromisesTest {
     private static void promise12Faults() {
         String[] texts = {"", "x", "w", "w5", "w0", "w0x", "w00", "w00:", "w00=", "w00=x", "w00=00", "w00=10000",
             "w00=123x", "f", "f5", "f4", "f4;", "p", "p9", "p0=", "e", "ex", "e40", "e05", "e39;", "e390", "h",
-            "h40", "h00", "h", "s5", "s;", "s;;", ";", ".", ".0", ".100", ".99;", "s s", "S", "e1,", "w40=9999;s0"};
+            "h40", "h00", "h", "s5", "s;", "s;;", ";", ".", ".0", ".100", ".99;", "s s", "S", "e1,", "w40=9999;s0", "e49", "h99", ".199"};
         int[] faults = {0, 0, 1, 1, 2, 2, 3, 3, 4, 4, 5, 8,
             7, 1, 1, 2, 2, 1, 1, 2, 1, 1, 2, 2, 4, 3, 1,
-            2, 2, 1, 1, 2, 2, 0, 1, 1, 3, 4, 1, 0, 2, 10};
+            2, 2, 1, 1, 2, 2, 0, 1, 1, 3, 4, 1, 0, 2, 10, 2, 2, 3};
         RetiredCells x = new RetiredCells();
         for (int i = 0; i < texts.length; i++) {
             x = new RetiredCells();
@@ -583,6 +584,57 @@ public final class PromisesTest {
         due.is("14 the cell given last", all.next(), 1);
     }
 
+    /** Each kind of act records the state just ahead of it, whatever was recorded last. */
+    private static void promise14EachAct() {
+        RetiredCells x = new RetiredCells();
+        x.write(0, 0, 1);
+        x.pin(0, 0, true);
+        x.giveBack(0, 0);
+        x.undo();
+        due.is("14 giveBack", x.page(0, 0, 2), 1);
+        x.error(7);
+        x.pin(0, 0, false);
+        x.undo();
+        due.is("14 pin", x.cell(7, 1) * 10 + x.page(0, 0, 2), 11);
+        x.pass(3);
+        x.error(7);
+        x.undo();
+        due.is("14 error", x.count(0) * 10 + x.cell(7, 1), 31);
+        x.error(8);
+        x.hardError(0);
+        x.undo();
+        due.is("14 hardError", x.cell(8, 1) * 10 + x.page(0, 0, 1), 11);
+        x.pin(0, 0, false);
+        x.start();
+        x.undo();
+        due.is("14 start", x.page(0, 0, 1) * 10 + x.page(0, 0, 2), 10);
+        x.error(8);
+        x.pass(20);
+        x.undo();
+        due.is("14 pass", x.cell(8, 1) * 10 + x.count(0), 23);
+        x.error(0);
+        x.set(0, 1);
+        x.undo();
+        due.is("14 set", x.count(13) * 10 + x.cell(0, 1), 31);
+        x.hardError(20);
+        x.write(1, 1, 2);
+        x.undo();
+        due.is("14 write", x.cell(20, 0) * 10 + x.page(1, 1, 0), 20 + NONE);
+        x.error(0);
+        Due.perform(x, "e0");
+        due.is("14 moved by perform", x.page(0, 0, 3), 1);
+        x.undo();
+        due.is("14 perform", x.cell(0, 1) * 10 + x.page(0, 0, 3), 20);
+        x.keep();
+        x.error(0);
+        x.hardError(21);
+        x.restore();
+        due.is("14 restored moves", x.page(0, 0, 3), 0);
+        due.is("14 restored list", x.list(0) * 10 + x.count(5), 201);
+        x.undo();
+        due.is("14 restore", x.list(0) * 10000 + x.list(1) * 100 + x.list(2), 200021);
+    }
+
     private static void promise14WhatRecords() {
         RetiredCells x = new RetiredCells();
         x.keep();
@@ -637,6 +689,14 @@ public final class PromisesTest {
         due.is("16 undo", x.undo(), 3);
         due.is("16 behind undo", x.count(3), 2);
         due.is("16 undo leaves it", x.restore(), 1);
+        RetiredCells other = new RetiredCells();
+        other.hardError(1);
+        other.keep();
+        other.undo();
+        other.hardError(2);
+        other.restore();
+        due.is("16 the list", other.list(0), 1);
+        due.is("16 its cell", other.cell(1, 5) * 10 + other.cell(2, 0), 0);
     }
 
     private static void promise17Page() {
@@ -792,6 +852,8 @@ public final class PromisesTest {
         due.is("24 the most", x.worst(), 9);
         x.error(9);
         due.is("24 not a retired one", x.worst(), 5);
+        x.error(0);
+        due.is("24 the lowest of all", x.worst(), 0);
     }
 
     private static void promise25IfStarted() {
