@@ -11,6 +11,14 @@ final class Due {
         }
     }
 
+    /** Tells the places at which two rows differ. */
+    void same(String what, int[] got, int[] want) {
+        is(what + ": length", got.length, want.length);
+        for (int i = 0; i < Math.min(got.length, want.length); i++) {
+            is(what + ": place " + i, got[i], want[i]);
+        }
+    }
+
     /** Types a text in place of the one that was. */
     static void text(RetiredCells x, String text) {
         x.clearText();

@@ -46,21 +46,6 @@ public final class PromisesTest {
         due.end();
     }
 
-    /** Fills all cells: programs 0 to 3, each page with the cell program * 10 + page. */
-    private static RetiredCells fullMemory() {
-        RetiredCells x = new RetiredCells();
-        for (int page = 0; page < 40; page++) {
-            x.write(page / 10, page % 10, 100 + page);
-        }
-        return x;
-    }
-
-    private static void errors(RetiredCells x, int cell, int times) {
-        for (int i = 0; i < times; i++) {
-            x.error(cell);
-        }
-    }
-
     private static void promise1NewObject() {
         RetiredCells x = new RetiredCells();
         int[] counts = {0, 40, 0, 0, 0, 0, 0, 0, 0, 0, 0, 0, 0, 3, 10, 0, 0, 0};
@@ -99,7 +84,7 @@ public final class PromisesTest {
         due.is("2 value 10000", x.write(0, 0, 10000), BAD_VALUE);
         due.is("2 both", x.write(5, 0, -1), UNKNOWN);
         due.is("2 history", x.count(16), 3);
-        RetiredCells full = fullMemory();
+        RetiredCells full = Runs.fullMemory();
         due.is("2 full", full.write(4, 0, 5), FULL);
         due.is("2 full, bad value", full.write(4, 0, 10000), BAD_VALUE);
         due.is("2 full, a page with a cell", full.write(3, 9, 5), 39);
@@ -177,14 +162,14 @@ public final class PromisesTest {
         RetiredCells bad = new RetiredCells();
         bad.write(0, 0, 9);
         bad.pin(0, 0, true);
-        errors(bad, 0, 3);
+        Runs.errors(bad, 0, 3);
         due.is("3 a bad one waits", bad.cell(0, 4), 1);
         due.is("3 a bad one given back", bad.giveBack(0, 0), 9);
         due.is("3 is retired at once", bad.cell(0, 0), 2);
 
-        RetiredCells full = fullMemory();
-        errors(full, 7, 3);
-        errors(full, 5, 3);
+        RetiredCells full = Runs.fullMemory();
+        Runs.errors(full, 7, 3);
+        Runs.errors(full, 5, 3);
         due.is("3 two wait", full.count(4), 2);
         due.is("3 room for one", full.giveBack(3, 9), 139);
         due.is("3 the lower one is moved", full.page(0, 5, 0), 39);
@@ -211,7 +196,7 @@ public final class PromisesTest {
         due.is("4 program -1", x.pin(-1, 0, true), UNKNOWN);
         due.is("4 page 10", x.pin(0, 10, true), UNKNOWN);
         due.is("4 page -1", x.pin(0, -1, true), UNKNOWN);
-        errors(x, 1, 3);
+        Runs.errors(x, 1, 3);
         due.is("4 pinned, it waits", x.page(1, 0, 0), 1);
         due.is("4 unpinned", x.pin(1, 0, false), 0);
         due.is("4 it is moved", x.page(1, 0, 0), 2);
@@ -231,15 +216,15 @@ public final class PromisesTest {
         due.is("5 cell -1", x.error(-1), UNKNOWN);
         due.is("5 cell 40", x.error(40), UNKNOWN);
         due.is("5 history", x.count(16), 3);
-        RetiredCells full = fullMemory();
-        errors(full, 3, 2);
+        RetiredCells full = Runs.fullMemory();
+        Runs.errors(full, 3, 2);
         due.is("5 no other free cell", full.error(3), 0);
         due.is("5 it waits", full.cell(3, 4), 1);
         due.is("5 one error more", full.error(3), 0);
         due.is("5 its count", full.cell(3, 1), 4);
         RetiredCells used = new RetiredCells();
         used.write(2, 3, 42);
-        errors(used, 0, 2);
+        Runs.errors(used, 0, 2);
         due.is("5 a used one is moved", used.error(0), 1);
         due.is("5 cell", used.page(2, 3, 0), 1);
         due.is("5 value", used.page(2, 3, 1), 42);
@@ -255,21 +240,21 @@ public final class PromisesTest {
         x.set(2, 1);
         x.write(0, 0, 1);
         x.error(1);
-        errors(x, 0, 3);
+        Runs.errors(x, 0, 3);
         due.is("5 moved by 1", x.page(0, 0, 0), 2);
         RetiredCells y = new RetiredCells();
         y.write(0, 0, 1);
         y.write(0, 1, 1);
         y.giveBack(0, 0);
         y.set(2, 2);
-        errors(y, 1, 3);
+        Runs.errors(y, 1, 3);
         due.is("5 moved by 2", y.page(0, 1, 0), 2);
         due.is("5 a move gives", y.next(), 3);
         RetiredCells z = new RetiredCells();
         z.write(0, 0, 1);
         z.write(0, 1, 1);
         z.giveBack(0, 0);
-        errors(z, 1, 3);
+        Runs.errors(z, 1, 3);
         due.is("5 moved by 0", z.page(0, 1, 0), 0);
         z.set(2, 2);
         due.is("5 a move by 0 gives too", z.next(), 2);
@@ -307,7 +292,7 @@ public final class PromisesTest {
         x.write(0, 0, 5);
         x.pin(0, 0, true);
         x.write(0, 1, 6);
-        errors(x, 9, 2);
+        Runs.errors(x, 9, 2);
         x.hardError(20);
         x.pass(7);
         due.is("7 free", x.start(), 39);
@@ -321,7 +306,7 @@ public final class PromisesTest {
         due.is("7 on the list", x.cell(20, 0), 2);
         due.is("7 starts", x.count(12), 1);
         due.is("7 used", x.count(2), 0);
-        errors(x, 3, 3);
+        Runs.errors(x, 3, 3);
         due.is("7 its count", x.cell(3, 1), 3);
         due.is("7 again", x.start(), 38);
         due.is("7 a retired one has none either", x.cell(3, 1), 0);
@@ -350,7 +335,7 @@ public final class PromisesTest {
     private static void promise8Pass() {
         RetiredCells x = new RetiredCells();
         x.error(0);
-        errors(x, 1, 2);
+        Runs.errors(x, 1, 2);
         due.is("8 nine days", x.pass(9), 0);
         due.is("8 not yet", x.cell(1, 1), 2);
         due.is("8 the tenth", x.pass(1), 0);
@@ -363,10 +348,10 @@ public final class PromisesTest {
         due.is("8 days -1", x.pass(-1), BAD_VALUE);
         due.is("8 day", x.count(0), 20);
         x.set(1, 7);
-        errors(x, 5, 2);
+        Runs.errors(x, 5, 2);
         x.pass(1);
         due.is("8 day 21 by 7", x.cell(5, 1), 1);
-        errors(x, 6, 3);
+        Runs.errors(x, 6, 3);
         x.pass(99);
         due.is("8 a retired one keeps its count", x.cell(6, 1), 3);
         RetiredCells far = new RetiredCells();
@@ -378,9 +363,9 @@ public final class PromisesTest {
         due.is("8 day 9999", far.count(0), 9999);
         far.undo();
         due.is("8 beyond by one", far.pass(99), 0);
-        RetiredCells waiting = fullMemory();
-        errors(waiting, 2, 3);
-        errors(waiting, 4, 4);
+        RetiredCells waiting = Runs.fullMemory();
+        Runs.errors(waiting, 2, 3);
+        Runs.errors(waiting, 4, 4);
         due.is("8 two wait", waiting.pass(9), 2);
         due.is("8 one less bad", waiting.pass(1), 1);
         due.is("8 no more", waiting.pass(10), 0);
@@ -416,18 +401,18 @@ public final class PromisesTest {
         x.write(0, 1, 2);
         x.write(0, 2, 3);
         x.giveBack(0, 0);
-        errors(x, 0, 2);
-        errors(x, 1, 2);
-        errors(x, 3, 2);
+        Runs.errors(x, 0, 2);
+        Runs.errors(x, 1, 2);
+        Runs.errors(x, 3, 2);
         due.is("9 bad by 2", x.set(0, 2), 3);
         due.is("9 a free one", x.cell(0, 0), 2);
         due.is("9 a used one goes by the bad one", x.page(0, 1, 0), 4);
         due.is("9 a free one behind", x.cell(3, 0), 2);
         due.is("9 by their numbers", x.list(0) * 100 + x.list(1) * 10 + x.list(2), 13);
-        RetiredCells y = fullMemory();
+        RetiredCells y = Runs.fullMemory();
         y.giveBack(3, 9);
-        errors(y, 39, 2);
-        errors(y, 4, 2);
+        Runs.errors(y, 39, 2);
+        Runs.errors(y, 4, 2);
         due.is("9 the only free one is bad", y.set(0, 2), 3);
         due.is("9 no room", y.reason(4), 3);
         due.is("9 it is retired", y.reason(39), 0);
@@ -544,7 +529,7 @@ public final class PromisesTest {
         due.is("13 number of days", x.stopped(0), 1);
         due.is("13 beyond", x.stopped(1), FULL);
         due.is("13 day", x.count(0), 9900);
-        RetiredCells full = fullMemory();
+        RetiredCells full = Runs.fullMemory();
         due.is("13 w", Due.perform(full, "w00=1;w40=1"), NOT_POSSIBLE);
         due.is("13 number of w", full.stopped(0), 1);
         due.is("13 no cell free", full.stopped(1), FULL);
@@ -709,8 +694,8 @@ public final class PromisesTest {
         due.is("17 what 4", x.page(0, 0, 4), BAD_VALUE);
         due.is("17 no value", x.page(4, 9, 1), NONE);
         x.write(4, 9, 88);
-        errors(x, 0, 3);
-        errors(x, 1, 3);
+        Runs.errors(x, 0, 3);
+        Runs.errors(x, 1, 3);
         x.pin(4, 9, true);
         due.is("17 cell", x.page(4, 9, 0), 2);
         due.is("17 value", x.page(4, 9, 1), 88);
@@ -736,7 +721,7 @@ public final class PromisesTest {
         x.pin(1, 9, true);
         due.is("18 pages", x.program(1, 0) * 10 + x.program(0, 0), 21);
         due.is("18 pinned", x.program(1, 1) * 10 + x.program(0, 1), 10);
-        errors(x, 1, 3);
+        Runs.errors(x, 1, 3);
         x.hardError(2);
         due.is("18 lost", x.program(1, 2) * 10 + x.program(0, 2), 10);
         due.is("18 moves", x.program(1, 3) * 10 + x.program(0, 3), 10);
@@ -755,7 +740,7 @@ public final class PromisesTest {
         x.write(3, 7, 1);
         x.pin(3, 7, true);
         x.hardError(39);
-        errors(x, 0, 4);
+        Runs.errors(x, 0, 4);
         int[] used = {1, 4, 3, 7, 1, NONE};
         int[] free = {0, 0, NONE, NONE, 0, NONE};
         int[] retired = {2, 0, NONE, NONE, 0, 0};
@@ -764,7 +749,7 @@ public final class PromisesTest {
             due.is("19 free " + what, x.cell(1, what), free[what]);
             due.is("19 retired " + what, x.cell(39, what), retired[what]);
         }
-        errors(x, 5, 3);
+        Runs.errors(x, 5, 3);
         due.is("19 a retired one does not wait", x.cell(5, 4), 0);
         due.is("19 place", x.cell(5, 5), 1);
     }
@@ -795,19 +780,19 @@ public final class PromisesTest {
         due.is("21 by 1", x.next(), 3);
         x.set(2, 2);
         due.is("21 by 2", x.next(), 2);
-        due.is("21 full", fullMemory().next(), NONE);
+        due.is("21 full", Runs.fullMemory().next(), NONE);
     }
 
     private static void promise22Reason() {
-        RetiredCells x = fullMemory();
+        RetiredCells x = Runs.fullMemory();
         due.is("22 cell -1", x.reason(-1), UNKNOWN);
         due.is("22 cell 40", x.reason(40), UNKNOWN);
         due.is("22 not bad", x.reason(0), 1);
         x.pin(0, 0, true);
         due.is("22 not bad, pinned", x.reason(0), 1);
-        errors(x, 0, 3);
+        Runs.errors(x, 0, 3);
         due.is("22 pinned, and no room", x.reason(0), 2);
-        errors(x, 1, 3);
+        Runs.errors(x, 1, 3);
         due.is("22 no room", x.reason(1), 3);
         x.hardError(2);
         due.is("22 retired", x.reason(2), 0);
@@ -829,14 +814,14 @@ public final class PromisesTest {
         x.hardError(5);
         due.is("23 retired", x.errorsLeft(5), NOT_POSSIBLE);
         due.is("23 no act", x.count(8), 1);
-        RetiredCells full = fullMemory();
+        RetiredCells full = Runs.fullMemory();
         due.is("23 no room", full.errorsLeft(3), NONE);
         full.giveBack(0, 0);
         due.is("23 room", full.errorsLeft(3), 3);
         due.is("23 the free one itself", full.errorsLeft(0), 3);
-        errors(full, 0, 3);
+        Runs.errors(full, 0, 3);
         due.is("23 no room any more", full.errorsLeft(3), NONE);
-        errors(full, 3, 3);
+        Runs.errors(full, 3, 3);
         due.is("23 it waits", full.errorsLeft(3), NONE);
     }
 
@@ -857,7 +842,7 @@ public final class PromisesTest {
     }
 
     private static void promise25IfStarted() {
-        RetiredCells x = fullMemory();
+        RetiredCells x = Runs.fullMemory();
         due.is("25 all", x.ifStarted(), 40);
         for (int cell = 0; cell < 13; cell++) {
             x.hardError(cell);
