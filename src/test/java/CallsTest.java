@@ -622,6 +622,12 @@ public final class CallsTest {
         x.set(0, 4);
         due.is("1 by the setting", x.reason(1), 1);
         due.is("0 stays 0", x.reason(0), 0);
+        RetiredCells last = new RetiredCells();
+        last.write(4, 8, 0);
+        last.write(4, 9, 0);
+        last.pin(4, 9, true);
+        Runs.errors(last, 1, 3);
+        due.is("2 of the last page", last.reason(1), 2);
         RetiredCells free = new RetiredCells();
         due.is("a free one", free.reason(39), 1);
         free.write(0, 0, 0);

@@ -8,6 +8,10 @@ public final class TermsTest {
 
     private static final Due due = new Due();
 
+    private interface Act {
+        int on(RetiredCells x);
+    }
+
     public static void main(String[] args) {
         pagesAndPrograms();
         givenCells();
@@ -431,21 +435,28 @@ public final class TermsTest {
     /** "of those that are free and not bad": the bad ones are passed over, by each setting 2. */
     private static void otherCellIsNotBad() {
         int[] targets = {6, 7, 6};
-        for (int setting = 0; setting <= 2; setting++) {
-            RetiredCells x = new RetiredCells();
-            for (int page = 0; page < 5; page++) {
-                x.write(0, page, page);
+        for (int errors = 2; errors <= 5; errors++) {
+            for (int setting = 0; setting <= 2; setting++) {
+                passedOver(errors, setting, targets[setting]);
             }
-            Runs.errors(x, 3, 2);
-            Runs.errors(x, 5, 2);
-            x.error(6);
-            x.set(2, setting);
-            x.set(0, 2);
-            due.is("moved past the bad one by " + setting, x.page(0, 3, 0), targets[setting]);
-            due.is("value by " + setting, x.page(0, 3, 1), 3);
-            due.is("both are retired by " + setting, x.cell(3, 0) + x.cell(5, 0), 4);
-            due.is("one move by " + setting, x.count(10), 1);
         }
+    }
+
+    private static void passedOver(int errors, int setting, int target) {
+        RetiredCells x = new RetiredCells();
+        x.set(0, 20);
+        for (int page = 0; page < 5; page++) {
+            x.write(0, page, page);
+        }
+        Runs.errors(x, 3, 2);
+        Runs.errors(x, 5, errors);
+        x.error(6);
+        x.set(2, setting);
+        x.set(0, 2);
+        due.is("moved past the bad one by " + setting, x.page(0, 3, 0), target);
+        due.is("value by " + setting, x.page(0, 3, 1), 3);
+        due.is("both are retired by " + setting, x.cell(3, 0) + x.cell(5, 0), 4);
+        due.is("one move by " + setting, x.count(10), 1);
     }
 
     /** "Otherwise it waits.": until it is possible, or it is not bad any more. */
@@ -1013,6 +1024,7 @@ public final class TermsTest {
         noneRecordsNothing();
         oneSnapshot();
         stateIsEverything();
+        listIsOfTheState();
         butTextHistorySnapshotStop();
     }
 
@@ -1067,31 +1079,48 @@ public final class TermsTest {
 
     /** "Each call of a method that is described as an act .. records the state that was before it." */
     private static void recordsTheStateBefore() {
-        String[] acts = {"w01=5", "f00", "p00", "e0", "h0", "s", ".9", "w01=5;f00;h7"};
-        for (String act : acts) {
+        recordedBy("write", x -> x.write(0, 0, 5));
+        recordedBy("write, a new page", x -> x.write(0, 1, 5));
+        recordedBy("giveBack", x -> x.giveBack(0, 0));
+        recordedBy("pin", x -> x.pin(0, 0, true));
+        recordedBy("error", x -> x.error(0));
+        recordedBy("error that moves", x -> x.error(2));
+        recordedBy("hardError", x -> x.hardError(0));
+        recordedBy("start", x -> x.start());
+        recordedBy("pass", x -> x.pass(9));
+        recordedBy("set 0", x -> x.set(0, 1));
+        recordedBy("set 1", x -> x.set(1, 1));
+        recordedBy("set 2", x -> x.set(2, 1));
+        recordedBy("perform", x -> x.perform());
+        recordedBy("restore", x -> x.restore());
+    }
+
+    /** The act comes once behind another act, and once behind an undo. */
+    private static void recordedBy(String name, Act act) {
+        for (int undone = 0; undone < 2; undone++) {
             RetiredCells x = new RetiredCells();
+            x.keep();
+            Due.text(x, "w01=5;f00;h7");
             x.write(0, 0, 4);
+            x.write(4, 9, 3);
+            x.hardError(1);
+            Runs.errors(x, 2, 2);
+            x.undo();
+            x.error(2);
+            if (undone == 1) {
+                x.undo();
+                x.error(2);
+                x.error(9);
+                x.undo();
+            }
             int[] was = Runs.told(x);
-            x.write(0, 1, 6);
-            x.undo();
-            Due.perform(x, act);
-            due.is("recorded: " + act, x.count(16), 2);
-            x.undo();
-            x.clearText();
-            due.same("the state before " + act, Runs.told(x), was);
+            int states = x.count(16);
+            due.is("no error by " + name, act.on(x) >= 0 ? 1 : 0, 1);
+            due.is("one state by " + name, x.count(16), Math.min(4, states + 1));
+            due.is("undo of " + name, x.undo(), Math.min(3, states));
+            was[Runs.AT_HISTORY] = x.count(16);
+            due.same("the state before " + name, Runs.told(x), was);
         }
-        RetiredCells x = new RetiredCells();
-        x.set(0, 4);
-        int[] was = Runs.told(x);
-        x.set(0, 5);
-        x.undo();
-        due.same("the state before set", Runs.told(x), was);
-        x.keep();
-        x.pass(3);
-        was = Runs.told(x);
-        x.restore();
-        x.undo();
-        due.same("the state before restore", Runs.told(x), was);
     }
 
     /** "and returns no error and not NONE" */
@@ -1148,6 +1177,23 @@ public final class TermsTest {
         x.clearText();
         was[Runs.AT_HISTORY] = 4;
         due.same("restored", Runs.told(x), was);
+    }
+
+    /** "A state is everything": lists that are no beginnings of one another */
+    private static void listIsOfTheState() {
+        RetiredCells x = new RetiredCells();
+        x.hardError(5);
+        x.hardError(6);
+        x.keep();
+        x.undo();
+        x.undo();
+        x.hardError(7);
+        due.is("the list of the state that was restored", x.restore() * 100 + x.list(0) * 10 + x.list(1), 256);
+        due.is("its cell", x.cell(5, 0) * 10 + x.cell(7, 0), 20);
+        x.undo();
+        due.is("the list of the state that was undone", x.list(0), 7);
+        due.is("it has one entry", x.list(1), NONE);
+        due.is("its cell", x.cell(5, 0) * 10 + x.cell(7, 0), 2);
     }
 
     /** "but the text, the history, the snapshot and the latest stop" */
