@@ -14,6 +14,7 @@ public final class ModelTest {
             seed = run * 7919L + 17;
             x = new RetiredCells();
             model = new Model();
+            begin(run % 7);
             for (int call = 0; call < CALLS; call++) {
                 before = "run " + run + ", call " + call + ": ";
                 oneCall(run % 4);
@@ -36,6 +37,22 @@ public final class ModelTest {
             return lowest - 1;
         }
         return chance == 1 ? highest + 1 : lowest + below(highest - lowest + 1);
+    }
+
+    /** Beginnings that a run would not come to by chance: the last days, and a memory with few cells or none left. */
+    private static void begin(int kind) {
+        before = "beginning " + kind + ": ";
+        if (kind == 1 || kind == 3) {
+            for (int i = 0; i < 100; i++) {
+                due.is(before + "pass(99)", x.pass(99), model.pass(99));
+            }
+        }
+        if (kind == 2 || kind == 3) {
+            int kept = below(4);
+            for (int cell = 0; cell < 40 - kept; cell++) {
+                due.is(before + "hardError(" + cell + ")", x.hardError(cell), model.hardError(cell));
+            }
+        }
     }
 
     /** The four kinds of runs: all cells alike, a full memory, many hard errors, many texts. */
